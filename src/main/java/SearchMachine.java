@@ -220,11 +220,11 @@ public final class SearchMachine {
     private void choose(int a, int bc) {
         int lowest = (bc & 15) - CHOOSE_SHIFT;
         int highest = (bc >> 4) - CHOOSE_SHIFT;
-        if (lowest > highest) {
+        int numbers = highest - lowest + 1;
+        if (numbers < 1) {
             wayCount = 0;
             return;
         }
-        int numbers = highest - lowest + 1;
         split(numbers);
         for (int way = 0; way < wayCount; way++) {
             cells[way * VARIABLES + a] = lowest + way % numbers;
@@ -249,16 +249,15 @@ public final class SearchMachine {
     /** Puts the given number of copies, 1 or more, in the place of every way. */
     private void split(int copies) {
         // From the last to the first: a copy never lands on a way that is still to be copied.
-        for (int way = wayCount * copies - 1; way >= 0; way--) {
-            copyWay(way / copies, way);
+        for (int way = wayCount - 1; way >= 0; way--) {
+            for (int copy = copies - 1; copy >= 0; copy--) {
+                int to = way * copies + copy;
+                for (int v = 0; v < VARIABLES; v++) {
+                    cells[to * VARIABLES + v] = cells[way * VARIABLES + v];
+                }
+            }
         }
         wayCount = wayCount * copies;
-    }
-
-    private void copyWay(int from, int to) {
-        for (int v = 0; v < VARIABLES; v++) {
-            cells[to * VARIABLES + v] = cells[from * VARIABLES + v];
-        }
     }
 
     private void keepFirst() {
@@ -278,6 +277,12 @@ public final class SearchMachine {
             }
         }
         wayCount = kept;
+    }
+
+    private void copyWay(int from, int to) {
+        for (int v = 0; v < VARIABLES; v++) {
+            cells[to * VARIABLES + v] = cells[from * VARIABLES + v];
+        }
     }
 
     private static boolean holds(int kind, int left, int right) {
