@@ -1,22 +1,5 @@
 /** Each promise of the document, with ordinary inputs, the edges it names, and wrong inputs. */
-public final class PromisesTest {
-    private static final int CHOOSE = 0;
-    private static final int SET = 1;
-    private static final int ADD = 2;
-    private static final int MUL = 3;
-    private static final int PICK = 4;
-    private static final int LESS = 5;
-    private static final int EQUAL = 6;
-    private static final int DIFFER = 7;
-    private static final int ONCE = 8;
-    private static final int EITHER = 9;
-
-    private static final int NONE = -1000000000;
-    private static final int BAD = -1;
-    private static final int FULL = -2;
-    private static final int MIN = Integer.MIN_VALUE;
-    private static final int MAX = Integer.MAX_VALUE;
-
+public final class PromisesTest extends Programs {
     public static void main(String[] args) {
         promise1NewObject();
         promise1ObjectsAreApart();
@@ -43,38 +26,6 @@ public final class PromisesTest {
         termsOnce();
         termsWrap();
         Checks.end("PromisesTest");
-    }
-
-    private static int range(int b, int c) {
-        return (b + 3) + 16 * (c + 3);
-    }
-
-    /** A program of the given steps, three numbers each. */
-    private static SearchMachine program(int... numbers) {
-        SearchMachine x = new SearchMachine();
-        for (int i = 0; i < numbers.length; i += 3) {
-            Checks.due("step " + i / 3 + " of a program", x.step(numbers[i], numbers[i + 1], numbers[i + 2]), i / 3);
-        }
-        return x;
-    }
-
-    private static void dueAnswer(String what, SearchMachine x, int k, int... wanted) {
-        for (int v = 0; v < wanted.length; v++) {
-            Checks.due(what + ": value(" + k + ", " + v + ")", x.value(k, v), wanted[v]);
-        }
-    }
-
-    private static void dueColumn(String what, SearchMachine x, int v, int... wanted) {
-        Checks.due(what + ": answers()", x.answers(), wanted.length);
-        for (int k = 0; k < wanted.length; k++) {
-            Checks.due(what + ": value(" + k + ", " + v + ")", x.value(k, v), wanted[k]);
-        }
-    }
-
-    private static void dueStep(SearchMachine x, int kind, int a, int bc, int want) {
-        int before = x.length();
-        Checks.due("step(" + kind + ", " + a + ", " + bc + ")", x.step(kind, a, bc), want);
-        Checks.due("length() after it", x.length(), want < 0 ? before : before + 1);
     }
 
     private static void promise1NewObject() {
@@ -117,12 +68,12 @@ public final class PromisesTest {
     }
 
     private static void promise2StepWrongVariables() {
-        SearchMachine x = new SearchMachine();
         int[] wrong = {-1, 4, 5, -4, 256, MIN, MAX};
         for (int kind = 0; kind <= 9; kind++) {
             if (kind == ONCE) {
                 continue;
             }
+            SearchMachine x = new SearchMachine();
             for (int variable : wrong) {
                 dueStep(x, kind, variable, 0, BAD);
                 if (kind != CHOOSE && kind != SET) {
@@ -137,6 +88,7 @@ public final class PromisesTest {
             }
         }
         for (int number : new int[] {-1, 0, 4, 99, -99, MIN, MAX}) {
+            SearchMachine x = new SearchMachine();
             dueStep(x, ONCE, number, 0, 0);
             Checks.due("ONCE with any a: answers()", x.answers(), 1);
             x.drop();
@@ -156,8 +108,8 @@ public final class PromisesTest {
         SearchMachine greatest = program(SET, 0, 20);
         Checks.due("SET 0 20", greatest.value(0, 0), 20);
 
-        SearchMachine x = new SearchMachine();
         for (int bc = -40; bc <= 600; bc++) {
+            SearchMachine x = new SearchMachine();
             boolean right = bc >= 0 && bc % 16 <= 12 && bc / 16 <= 12;
             dueStep(x, CHOOSE, 0, bc, right ? 0 : BAD);
             if (right) {
@@ -167,9 +119,9 @@ public final class PromisesTest {
                 Checks.due("CHOOSE 0 " + b + " " + c + ": answers()", x.answers(), count);
                 Checks.due("CHOOSE 0 " + b + " " + c + ": least", x.extreme(0, 0), b > c ? NONE : b);
                 Checks.due("CHOOSE 0 " + b + " " + c + ": greatest", x.extreme(0, 1), b > c ? NONE : c);
-                x.drop();
             }
         }
+        SearchMachine x = new SearchMachine();
         for (int bc : new int[] {MIN, MIN + 1, MIN + 16, MAX, MAX - 15, 65536, 256 * 16, 13 * 16, 1 << 30}) {
             dueStep(x, CHOOSE, 0, bc, BAD);
         }
@@ -193,14 +145,6 @@ public final class PromisesTest {
                 }
             }
         }
-    }
-
-    private static SearchMachine fullOf(int kind, int a, int bc) {
-        SearchMachine x = new SearchMachine();
-        for (int place = 0; place < 14; place++) {
-            dueStep(x, kind, a, bc, place);
-        }
-        return x;
     }
 
     private static void promise2StepFull() {
