@@ -246,8 +246,8 @@ public final class SearchMachine {
         }
     }
 
-    /** Puts the given number of copies, 1 or more, in the place of every way. */
     private void split(int copies) {
+        // The copies of a way stand together in its place, so that earlier decisions count for more.
         // From the last to the first: a copy never lands on a way that is still to be copied.
         for (int way = wayCount - 1; way >= 0; way--) {
             for (int copy = copies - 1; copy >= 0; copy--) {
